@@ -816,6 +816,8 @@ public final class BestParses {
         private final int[] cameBy = new int[(MOST_OCTETS + 1) * MOST_KEPT];
         private final int[] held = new int[MOST_OCTETS + 1];
         private final boolean[] dropped = new boolean[MOST_OCTETS];
+        // By place: a key above this one can't change anything there any more.
+        private final long[] bounds = new long[MOST_OCTETS + 1];
         private int keptStates;
         // The state from which the steps now go.
         private int place;
@@ -852,6 +854,7 @@ public final class BestParses {
             }
             held[text.size] = 0;
             held[0] = 1;
+            Arrays.fill(bounds, Long.MAX_VALUE);
             keys[0] = Latest.AT_FIRST;
         }
 
@@ -861,7 +864,9 @@ public final class BestParses {
             long key = keys[from * MOST_KEPT + fromRank];
             sum = key >>> Latest.ALL_BITS;
             latest = key & Latest.MASK;
-            leadByCopies();
+            if (!copiesWereLed()) {
+                leadByCopies();
+            }
             for (int k = 0; k < Latest.MANY; k++) {
                 leadByAgain(k);
             }
@@ -870,6 +875,18 @@ public final class BestParses {
                 lead(SHORT, 1, costs.kindCost(SHORT), latest);
             }
             lead(LITERAL, 1, costs.literalCost(text.octetRow[place]), latest);
+        }
+
+        // Behind a copy the last of the latest distances is gone: of states that are alike but for it
+        // the first alone counts, the others lead to the same states with no lesser sums.
+        private boolean copiesWereLed() {
+            int first = place * MOST_KEPT;
+            for (int i = first; i < first + rank; i++) {
+                if (((keys[i] ^ latest) & Latest.MASK) >>> Latest.BITS == 0) {
+                    return true;
+                }
+            }
+            return false;
         }
 
         private void leadByCopies() {
@@ -894,47 +911,43 @@ public final class BestParses {
         private void lead(int kind, int length, int cost, long behind) {
             int to = place + length;
             long key = ((sum + cost) << Latest.ALL_BITS) | behind;
-            boolean atEnd = to == text.size;
-            int room = atEnd ? 1 : keptStates;
-            int first = to * MOST_KEPT;
-            int end = first + held[to];
-            boolean full = held[to] == room;
-            if (full && key > keys[end - 1] && (atEnd || dropped[to])) {
+            if (key > bounds[to]) {
                 return;
             }
-            int spot = first;
+            int end = to * MOST_KEPT + held[to];
+            int spot = to * MOST_KEPT;
             while (spot < end && keys[spot] <= key) {
-                if (alike(keys[spot], key)) {
+                if ((keys[spot] & Latest.MASK) == behind) {
                     return;
                 }
                 spot++;
             }
             int gap = spot;
-            while (gap < end && !alike(keys[gap], key)) {
+            while (gap < end && (keys[gap] & Latest.MASK) != behind) {
                 gap++;
             }
-            if (gap == end) {
-                if (!full) {
-                    held[to]++;
-                } else {
-                    gap--;
-                    dropLast(to);
-                }
+            if (gap == end && !makeRoom(to)) {
+                gap--;
             }
             if (spot <= gap) {
                 insert(spot, gap, key, (rank << 12) | (length << 3) | kind);
             }
+            if (to == text.size || dropped[to]) {
+                bounds[to] = keys[to * MOST_KEPT + held[to] - 1];
+            }
         }
 
-        private static boolean alike(long key, long other) {
-            return ((key ^ other) & Latest.MASK) == 0;
-        }
-
-        // The end is no place: only its first state counts, and nothing is dropped there.
-        private void dropLast(int to) {
+        /** False when the last of the states there has to go instead. */
+        private boolean makeRoom(int to) {
+            if (held[to] < (to == text.size ? 1 : keptStates)) {
+                held[to]++;
+                return true;
+            }
+            // The end is no place: only its first state counts, and nothing is dropped there.
             if (to < text.size) {
                 dropped[to] = true;
             }
+            return false;
         }
 
         /** What stands from spot on moves up into the gap. */
