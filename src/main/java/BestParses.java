@@ -24,7 +24,8 @@ public final class BestParses {
     private static final int AGAIN = 2;
     private static final int SHORT = 6;
 
-    private static final int FAR = Integer.MAX_VALUE;
+    // Above every sum that a parse can have.
+    private static final int FAR = 1 << 30;
 
     private final int form;
     private final Text text;
@@ -285,14 +286,19 @@ public final class BestParses {
             size++;
             int longestEnding = 0;
             for (int d = 1; d <= last; d++) {
-                int run = octetRow[last - d] == octet ? endRuns[d] + 1 : 0;
-                endRuns[d] = run;
-                int usable = Math.min(run, greatestLength);
-                for (int length = longestEnding + 1; length <= usable; length++) {
-                    nearest[nearestIndex(last, length)] = d;
-                    longestRuns[last - length + 1] = length;
+                endRuns[d] = octetRow[last - d] == octet ? endRuns[d] + 1 : 0;
+                if (endRuns[d] > longestEnding) {
+                    noteCopies(last, d, longestEnding + 1);
+                    longestEnding = endRuns[d];
                 }
-                longestEnding = Math.max(longestEnding, usable);
+            }
+        }
+
+        private void noteCopies(int last, int d, int shortest) {
+            int most = Math.min(endRuns[d], greatestLength);
+            for (int length = shortest; length <= most; length++) {
+                nearest[nearestIndex(last, length)] = d;
+                longestRuns[last - length + 1] = length;
             }
         }
 
@@ -508,7 +514,8 @@ public final class BestParses {
 
         /** For the searches, which know the steps from the end back. */
         void turnRound() {
-            for (int i = 0, j = count - 1; i < j; i++, j--) {
+            for (int i = 0; i < count / 2; i++) {
+                int j = count - 1 - i;
                 swap(kinds, i, j);
                 swap(places, i, j);
                 swap(lengths, i, j);
@@ -660,7 +667,6 @@ public final class BestParses {
             super(text, costs);
         }
 
-        @Override
         int findBest(Parse into, int kept) {
             costs.prepare(text);
             Arrays.fill(sums, FAR);
@@ -724,7 +730,6 @@ public final class BestParses {
             }
         }
 
-        @Override
         int findBest(Parse into, int kept) {
             Arrays.fill(sums, FAR);
             sums[0] = 0;
@@ -780,7 +785,6 @@ public final class BestParses {
             into.turnRound();
         }
 
-        @Override
         long costOf(Parse parse) {
             int sum = OCTET;
             int literals = 0;
@@ -811,6 +815,9 @@ public final class BestParses {
      * others stays behind them, unless it is reached anew with a lesser sum.
      */
     private static final class LatestForm extends Form {
+        // Above every key: sums stay below 2^24.
+        private static final long NO_BOUND = 1L << 62;
+
         // By place and rank: a state's sum and latest distances, and how it was reached.
         private final long[] keys = new long[(MOST_OCTETS + 1) * MOST_KEPT];
         private final int[] cameBy = new int[(MOST_OCTETS + 1) * MOST_KEPT];
@@ -829,7 +836,6 @@ public final class BestParses {
             super(text, costs);
         }
 
-        @Override
         int findBest(Parse into, int kept) {
             begin(kept);
             int droppedPlaces = 0;
@@ -854,7 +860,7 @@ public final class BestParses {
             }
             held[text.size] = 0;
             held[0] = 1;
-            Arrays.fill(bounds, Long.MAX_VALUE);
+            Arrays.fill(bounds, NO_BOUND);
             keys[0] = Latest.AT_FIRST;
         }
 
