@@ -1,11 +1,5 @@
-import java.util.Arrays;
-
 /** Each promise by answers that were worked out by hand from the document. */
-public final class PromisesTest {
-    private static int wrong;
-    private static int asked;
-    private static String part = "";
-
+public final class PromisesTest extends Checks {
     public static void main(String[] args) {
         newObject();
         octets();
@@ -33,71 +27,7 @@ public final class PromisesTest {
         clear();
         trier();
         greatestCosts();
-        System.out.println(asked + " answers, " + wrong + " wrong");
-        if (wrong != 0) {
-            System.exit(1);
-        }
-    }
-
-    private static void due(String call, long got, long want) {
-        asked++;
-        if (got != want) {
-            wrong++;
-            System.out.println(part + ": " + call + " answered " + got + ", due is " + want);
-        }
-    }
-
-    private static void due(String call, boolean got, boolean want) {
-        due(call, got ? 1 : 0, want ? 1 : 0);
-    }
-
-    private static BestParses with(int form, String text) {
-        BestParses x = new BestParses(form);
-        add(x, text);
-        return x;
-    }
-
-    private static void add(BestParses x, String text) {
-        for (int i = 0; i < text.length(); i++) {
-            x.octets(1, text.charAt(i));
-        }
-    }
-
-    /** Steps as texts: place, length, distance, which it is. */
-    private static void dueSteps(BestParses x, String... want) {
-        due("many(1)", x.many(1), want.length);
-        for (int i = 0; i < want.length; i++) {
-            String got = x.step(i, 0) + " " + x.step(i, 1) + " " + x.step(i, 2) + " " + x.step(i, 3);
-            asked++;
-            if (!got.equals(want[i])) {
-                wrong++;
-                System.out.println(part + ": step " + i + " is " + got + ", due is " + want[i]);
-            }
-        }
-    }
-
-    private static String[] literals(int n, String... then) {
-        String[] all = new String[n + then.length];
-        for (int i = 0; i < n; i++) {
-            all[i] = i + " 1 0 0";
-        }
-        System.arraycopy(then, 0, all, n, then.length);
-        return all;
-    }
-
-    private static String same(char c, int n) {
-        char[] all = new char[n];
-        Arrays.fill(all, c);
-        return new String(all);
-    }
-
-    /** Up and down again: no two octets in a row come twice in the same order. */
-    private static String different(int n) {
-        StringBuilder all = new StringBuilder();
-        for (int i = 0; i < n; i++) {
-            all.append((char) (i < 256 ? i : 511 - i));
-        }
-        return all.toString();
+        finish();
     }
 
     private static void newObject() {
@@ -742,15 +672,6 @@ public final class PromisesTest {
         due("throws of trier(2)", throwsOf(x, 2), false);
         x.clear();
         due("throws of trier(0) behind clear()", throwsOf(x, 0), true);
-    }
-
-    private static boolean throwsOf(BestParses x, int i) {
-        try {
-            x.trier(i);
-            return false;
-        } catch (ArrayIndexOutOfBoundsException e) {
-            return true;
-        }
     }
 
     private static void greatestCosts() {
