@@ -46,6 +46,9 @@ public final class RandomRunsTest {
             int n = random.nextInt(44) - 1;
             same("keep(" + n + ")", got.keep(n), due.keep(n));
         }
+        if (mostOctets == 300 && random.nextBoolean()) {
+            farApart();
+        }
         int left = 120;
         while (left > 0 && wrong == 0) {
             left--;
@@ -78,6 +81,17 @@ public final class RandomRunsTest {
             octets = octets << 8 | random.nextInt(alphabet);
         }
         return octets;
+    }
+
+    /** Octets that come twice at most, so that there are copies by great distances alone. */
+    private void farApart() {
+        for (int i = 0; i < 30; i++) {
+            long octets = 0;
+            for (int j = 0; j < 8; j++) {
+                octets = octets << 8 | (8 * i + j);
+            }
+            same("octets(8, " + octets + ")", got.octets(8, octets), due.octets(8, octets));
+        }
     }
 
     private void addOctets() {

@@ -39,6 +39,7 @@ public final class TermBoundariesTest extends Checks {
         sentence("LENGTH SLOT, FORM 2", TermBoundariesTest::lengthSlotsWithLatest);
         sentence("LENGTH SLOT of AGAIN", TermBoundariesTest::lengthSlotsOfAgain);
         sentence("DISTANCE SLOT", TermBoundariesTest::distanceSlots);
+        sentence("DISTANCES up to the greatest, by BEST", TermBoundariesTest::farDistances);
         sentence("COSTS at first", TermBoundariesTest::costsAtFirst);
         sentence("GREEDY: the STEP that is longest", TermBoundariesTest::greedyLongest);
         sentence("GREEDY: of AGAINS as long as a COPY", TermBoundariesTest::greedyAgain);
@@ -454,6 +455,30 @@ public final class TermBoundariesTest extends Checks {
         tellSlotsApart(x);
         x.parse(0);
         due("sum() by 1", x.sum(), 512 + 1000 + 2000);
+    }
+
+    private static void farDistances() {
+        for (int form = 0; form < 3; form++) {
+            for (int d = 250; d <= 291; d++) {
+                // Four octets by d, one of its own, and four by d once more.
+                StringBuilder text = new StringBuilder(different(d));
+                for (int i = 0; i < 9; i++) {
+                    text.append(i == 4 ? (char) 200 : text.charAt(i));
+                }
+                BestParses x = with(form, text.toString());
+                x.cost(3, 6, 10000);
+                x.parse(3);
+                String[] rest = {d + " 4 " + d + " 1", d + 4 + " 1 0 0", d + 5 + " 4 " + d + (form == 2 ? " 2" : " 1")};
+                dueSteps(x, literals(d, rest));
+            }
+        }
+        // The greatest one that there can be, of two octets.
+        BestParses x = with(2, different(298) + different(2));
+        x.cost(2, 16, 1);
+        x.cost(3, 6, 10000);
+        x.parse(3);
+        dueSteps(x, literals(298, "298 2 298 1"));
+        due("sum()", x.sum(), 298 * 576 + 64 + 320 + 1 + 7 * 64);
     }
 
     private static void costsAtFirst() {
