@@ -5,7 +5,7 @@ import java.lang.reflect.Modifier;
 import java.util.Set;
 import java.util.TreeSet;
 
-/** The public face is that of the document and nothing more. */
+/** The public face is that of the document and nothing more; no static state. */
 public final class FaceTest {
     private static final Set<String> METHODS = Set.of(
             "int octets(int, long)", "int cost(int, int, int)", "int price(int, int)", "int keep(int)",
@@ -53,6 +53,14 @@ public final class FaceTest {
         if (thrown.length != 1 || thrown[0] != ArrayIndexOutOfBoundsException.class) {
             wrong.add("trier() does not declare its exception");
         }
+        checkStatic(BestParses.class, wrong);
+        for (Class<?> inside : BestParses.class.getDeclaredClasses()) {
+            int how = inside.getModifiers();
+            if (!Modifier.isStatic(how) || Modifier.isPublic(how) || Modifier.isProtected(how)) {
+                wrong.add("a class inside is not as it may be: " + inside.getName());
+            }
+            checkStatic(inside, wrong);
+        }
         wrong.forEach(System.out::println);
         System.out.println(found.size() + " public methods, " + wrong.size() + " wrong");
         if (!wrong.isEmpty()) {
@@ -63,6 +71,15 @@ public final class FaceTest {
     private static void checkPrivate(Member member, Set<String> wrong) {
         if (!Modifier.isPrivate(member.getModifiers()) && !member.isSynthetic()) {
             wrong.add("not private: " + member.getName());
+        }
+    }
+
+    /** LANGUAGE.md, rule 5. */
+    private static void checkStatic(Class<?> owner, Set<String> wrong) {
+        for (Field f : owner.getDeclaredFields()) {
+            if (Modifier.isStatic(f.getModifiers()) && !Modifier.isFinal(f.getModifiers())) {
+                wrong.add("static and not final: " + f.getName());
+            }
         }
     }
 
